@@ -8,9 +8,20 @@ import java.util.TreeSet;
 /** The public face, and a new object (promise 1). */
 public final class FaceTest {
     private static final String[] FACE = {
-        "feed(int,int,int,int,int):void", "end(int):void", "again(int,int):void", "length():int",
-        "alter(int,int):void", "pack():int", "told(int):int", "codeLength(int,int):int", "unpack(int):int",
-        "blame(int):int", "back():void", "size():int", "byteAt(int):int", "check():long"};
+        "void feed(int,int,int,int,int) throws IllegalStateException",
+        "void end(int) throws IllegalArgumentException",
+        "void again(int,int) throws IllegalArgumentException,IllegalStateException",
+        "int length()",
+        "void alter(int,int) throws IndexOutOfBoundsException,IllegalArgumentException",
+        "int pack()",
+        "int told(int) throws IllegalArgumentException",
+        "int codeLength(int,int) throws IllegalArgumentException",
+        "int unpack(int) throws IllegalArgumentException",
+        "int blame(int) throws IllegalArgumentException",
+        "void back() throws IllegalStateException",
+        "int size()",
+        "int byteAt(int) throws IndexOutOfBoundsException",
+        "long check()"};
 
     public static void main(String[] args) {
         face();
@@ -24,15 +35,20 @@ public final class FaceTest {
         Due.due("public and final", face.getModifiers(), Modifier.PUBLIC | Modifier.FINAL);
         TreeSet<String> open = new TreeSet<>();
         for (Method m : face.getDeclaredMethods()) {
-            StringBuilder text = new StringBuilder(m.getName()).append('(');
-            for (Class<?> type : m.getParameterTypes()) {
-                text.append(text.charAt(text.length() - 1) == '(' ? "" : ",").append(type.getName());
-            }
             if (!Modifier.isPrivate(m.getModifiers())) {
-                open.add(text.append("):").append(m.getReturnType().getName()).toString());
+                Due.due(m.getName() + " is public alone", m.getModifiers(), Modifier.PUBLIC);
+                open.add(m.getReturnType() + " " + m.getName() + "(" + names(m.getParameterTypes()) + ")"
+                    + (m.getExceptionTypes().length == 0 ? "" : " throws " + names(m.getExceptionTypes())));
             }
         }
+        if (!open.equals(new TreeSet<>(Arrays.asList(FACE)))) {
+            System.out.println("the methods are " + open);
+        }
         Due.due("the methods are the document's", open.equals(new TreeSet<>(Arrays.asList(FACE))) ? 1 : 0, 1);
+        for (Class<?> inside : face.getDeclaredClasses()) {
+            Due.due(inside.getSimpleName() + " is static", Modifier.isStatic(inside.getModifiers()) ? 1 : 0, 1);
+            Due.due(inside.getSimpleName() + " is public", Modifier.isPublic(inside.getModifiers()) ? 1 : 0, 0);
+        }
         for (Field f : face.getDeclaredFields()) {
             boolean none = f.getName().equals("NONE");
             Due.due("the field " + f.getName() + " is private", Modifier.isPrivate(f.getModifiers()) ? 1 : 0, none ? 0 : 1);
@@ -41,6 +57,14 @@ public final class FaceTest {
         Due.due("constructors", makers.length, 1);
         Due.due("the constructor is public", makers[0].getModifiers(), Modifier.PUBLIC);
         Due.due("NONE", PackedBytes.NONE, -1);
+    }
+
+    private static String names(Class<?>[] types) {
+        StringBuilder text = new StringBuilder();
+        for (Class<?> type : types) {
+            text.append(text.length() == 0 ? "" : ",").append(type.getSimpleName());
+        }
+        return text.toString();
     }
 
     private static void newObject() {

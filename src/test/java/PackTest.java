@@ -18,6 +18,8 @@ public final class PackTest {
         sixtyFourPlaces();
         nearestOfEqual();
         longCodes();
+        manyHeaderItems();
+        equalBits();
         randomRows();
         throwsAndUnpackLeaveIt();
         Due.due("every table has had to be halved (1 symbols, 2 the C, 4 distances)", halvings, 7);
@@ -330,6 +332,61 @@ public final class PackTest {
             row[i] = (byte) next;
         }
         return row;
+    }
+
+    /** All bytes, every other one oftener: no two lengths beside each other are the same, so none is repeated. */
+    private static void manyHeaderItems() {
+        int[] left = new int[256];
+        int all = 0;
+        for (int b = 0; b < 256; b++) {
+            left[b] = b % 2 == 0 ? 40 : 10;
+            all += left[b];
+        }
+        Random random = new Random(10);
+        Sparse sparse = new Sparse();
+        while (all > 0) {
+            int b = pick(random, left, all);
+            if (sparse.add(b)) {
+                left[b]--;
+                all--;
+            }
+        }
+        // Some matches at the end bring symbols above 256 and distances.
+        for (int k = 0; k < 60; k++) {
+            byte[] part = Arrays.copyOfRange(sparse.row, 100 * k, 100 * k + 3 + k);
+            System.arraycopy(part, 0, sparse.row, sparse.n, part.length);
+            sparse.n += part.length;
+        }
+        PackedBytes x = new PackedBytes();
+        compare("many header items", x, sparse.whole());
+        int changes = 0;
+        for (int s = 1; s < 257; s++) {
+            changes += x.codeLength(0, s) != x.codeLength(0, s - 1) ? 1 : 0;
+        }
+        Due.due("lengths that are not the one before", changes, 256);
+    }
+
+    /** Rows found by trying, with as many bits in two or three of the kinds: the first of these is taken. */
+    private static void equalBits() {
+        // Length, kinds of bytes, the least byte, seed; then which kinds are equal, and which is due.
+        equalBits(72, 212, 28, 2851705461112305129L, "01", 0);
+        equalBits(23, 5, 83, -5947209963237869918L, "12", 1);
+        equalBits(82, 85, 95, 5308434415261004069L, "02", 0);
+        equalBits(30, 27, 208, 7411153229233250785L, "012", 0);
+    }
+
+    private static void equalBits(int n, int kinds, int least, long seed, String equal, int due) {
+        byte[] row = new byte[n];
+        Random random = new Random(seed);
+        for (int i = 0; i < n; i++) {
+            row[i] = (byte) (least + random.nextInt(kinds));
+        }
+        PackedBytes x = new PackedBytes();
+        compare("equal bits " + equal, x, row);
+        Due.due("equal bits " + equal + ": told(0)", x.told(0), due);
+        for (int k = 1; k < equal.length(); k++) {
+            Due.due("equal bits " + equal, x.told(3 + equal.charAt(k) - '0'), x.told(3 + equal.charAt(0) - '0'));
+        }
     }
 
     private static void randomRows() {
