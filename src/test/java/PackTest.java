@@ -49,6 +49,12 @@ public final class PackTest {
         }
         Due.due(name + ": length() stays", x.length(), row.length);
         Due.due(name + ": the library's unpacking", inflate(product, row.length), row);
+        if (product.length <= 65536) {
+            x.back();
+            Due.due(name + ": unpack()", x.unpack(row.length), row.length);
+            Due.due(name + ": unpacked", Due.product(x), row);
+            Due.due(name + ": blame(2)", x.blame(2), product.length);
+        }
     }
 
     private static byte[] inflate(byte[] stream, int n) {

@@ -15,6 +15,8 @@ public final class UnpackTest {
         ownHeads();
         ownLengths();
         ownSymbols();
+        longCodes();
+        anyLengths();
         severalFit();
         limits();
         productStays();
@@ -185,6 +187,116 @@ public final class UnpackTest {
         wrong(pair + "110 1 0", 9, 8, behind + 3 + 1);
         wrong(pair + "110 1 1", 9, 7, behind + 3 + 1);
         wrong(pair + "110 1 0", 0, 8, behind + 3 + 1);
+    }
+
+    /** A block of own codes with these lengths, each written by itself in four bits; then more bits. */
+    private static String own(int[] symbols, int[] distances, String more) {
+        StringBuilder text = new StringBuilder("1 2/2 ");
+        text.append(symbols.length - 257).append("/5 ").append(distances.length - 1).append("/5 15/4");
+        for (int s : Reference.ORDER) {
+            text.append(s < 16 ? " 4/3" : " 0/3");
+        }
+        for (int[] lengths : new int[][] {symbols, distances}) {
+            for (int length : lengths) {
+                text.append(' ').append(Integer.toBinaryString(16 + length).substring(1));
+            }
+        }
+        return text.append(' ').append(more).toString();
+    }
+
+    private static int lastLength(int[] symbols, int[] distances) {
+        return 3 + 14 + 57 + 4 * (symbols.length + distances.length - 1);
+    }
+
+    /** Symbols 97 .. 110 with 1 .. 14 bits, 111 and the block's end with 15. */
+    private static int[] steps(int n) {
+        int[] lengths = new int[n];
+        for (int k = 1; k < 15; k++) {
+            lengths[96 + k] = k;
+        }
+        lengths[111] = 15;
+        lengths[256] = 15;
+        return lengths;
+    }
+
+    private static void longCodes() {
+        int[] none = {0};
+        int[] symbols = steps(257);
+        String end = "111111111111111";
+        right(own(symbols, none, "0 10 111111111111110 11111111111110 0 " + end), 9, "abona");
+        symbols[111] = 0;
+        wrong(own(symbols, none, end), 9, 6, lastLength(symbols, none));
+        symbols[111] = 14;
+        wrong(own(symbols, none, end), 9, 6, lastLength(symbols, none));
+        symbols = steps(257);
+        symbols[112] = 15;
+        wrong(own(symbols, none, end), 9, 6, lastLength(symbols, none));
+        symbols = new int[257];
+        symbols[256] = 15;
+        wrong(own(symbols, none, end), 9, 6, lastLength(symbols, none));
+        // The greatest L and D, and the farthest distance, of one bit and 13 more.
+        symbols = steps(286);
+        symbols[111] = 0;
+        symbols[285] = 15;
+        int[] distances = new int[30];
+        distances[29] = 1;
+        String match = own(symbols, distances, "0 111111111111111 0 8191/13 111111111111110");
+        int place = lastLength(symbols, distances) + 4 + 1 + 15;
+        wrong(match, 65536, 8, place);
+        wrong(own(symbols, distances, "0 111111111111111 1"), 65536, 7, place);
+        distances[29] = 2;
+        wrong(own(symbols, distances, "0 111111111111110"), 9, 6, lastLength(symbols, distances));
+        distances[0] = 2;
+        distances[13] = 1;
+        right(own(symbols, distances, "0 111111111111111 10 111111111111110"), 999, "a".repeat(259));
+        distances[14] = 15;
+        wrong(own(symbols, distances, "0 111111111111110"), 9, 6, lastLength(symbols, distances));
+    }
+
+    /** Lengths by chance, most of them of a full code, and symbols by chance behind them. */
+    private static void anyLengths() {
+        PackedBytes x = new PackedBytes();
+        Random random = new Random(12);
+        for (int k = 0; k < 6000; k++) {
+            int[] symbols = someLengths(random, 257 + random.nextInt(30), 256);
+            int[] distances = someLengths(random, 1 + random.nextInt(30), 0);
+            if (random.nextInt(8) == 0) {
+                symbols[random.nextInt(symbols.length)] = random.nextInt(16);
+            }
+            if (random.nextInt(8) == 0) {
+                distances[random.nextInt(distances.length)] = random.nextInt(16);
+            }
+            StringBuilder more = new StringBuilder();
+            for (int i = random.nextInt(400); i >= 0; i--) {
+                more.append((char) ('0' + random.nextInt(2)));
+            }
+            compare("any lengths " + k, x, Due.bytes(Due.bits(own(symbols, distances, more.toString()))), 65536);
+        }
+    }
+
+    /** One code is parted into two again and again; the first of them goes to this symbol, the others anywhere. */
+    private static int[] someLengths(Random random, int n, int symbol) {
+        int[] parts = new int[1 + random.nextInt(Math.min(n, 40))];
+        int have = 1;
+        while (have < parts.length) {
+            int i = random.nextInt(3) == 0 ? random.nextInt(have) : have - 1;
+            if (parts[i] < 15) {
+                parts[i]++;
+                parts[have++] = parts[i];
+            } else {
+                parts = Arrays.copyOf(parts, have);
+            }
+        }
+        int[] lengths = new int[n];
+        lengths[symbol] = Math.max(parts[0], random.nextInt(2));
+        for (int i = 1; i < parts.length; i++) {
+            int s = random.nextInt(n);
+            while (lengths[s] > 0 || s == symbol) {
+                s = (s + 1) % n;
+            }
+            lengths[s] = parts[i];
+        }
+        return lengths;
     }
 
     /** The least is told, but 1 before all others. */
