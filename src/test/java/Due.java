@@ -114,6 +114,14 @@ final class Due {
         return all.toString();
     }
 
+    static byte[] bytes(int... numbers) {
+        byte[] bytes = new byte[numbers.length];
+        for (int i = 0; i < bytes.length; i++) {
+            bytes[i] = (byte) numbers[i];
+        }
+        return bytes;
+    }
+
     static byte[] bytes(String bits) {
         byte[] bytes = new byte[(bits.length() + 7) / 8];
         for (int i = 0; i < bits.length(); i++) {
