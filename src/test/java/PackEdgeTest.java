@@ -84,6 +84,24 @@ public final class PackEdgeTest {
         int matches = want.length() - want.replace("@", "").length();
         Due.due("7: told(2) of " + name, p.told(2), matches);
         Due.due("7: told(1) of " + name, p.told(1), want.isEmpty() ? 0 : want.split(" ").length - matches);
+        Due.due("7: told(4) of " + name, p.told(4), fixedBits(want));
+        Due.due("7: size() of " + name, p.size(), (p.told(3 + p.told(0)) + 7) / 8);
+    }
+
+    /** How many bits these tokens have in a block of fixed codes. */
+    private static int fixedBits(String tokens) {
+        int bits = 3 + 7;
+        for (String token : tokens.isEmpty() ? new String[0] : tokens.split(" ")) {
+            int at = token.indexOf('@');
+            if (at >= 0) {
+                int i = Reference.lengthIndex(Integer.parseInt(token.substring(0, at)));
+                int d = Reference.distanceIndex(Integer.parseInt(token.substring(at + 1)));
+                bits += (257 + i < 280 ? 7 : 8) + Reference.lengthBits(i) + 5 + Reference.distanceBits(d);
+            } else {
+                bits += Character.isDigit(token.charAt(0)) && Integer.parseInt(token) > 143 ? 9 : 8;
+            }
+        }
+        return bits;
     }
 
     private static void dueTokens(String letters, String want) {
@@ -378,6 +396,7 @@ public final class PackEdgeTest {
                     Due.due("7: distance " + distance + " is symbol " + d, p.codeLength(1, d) > 0 ? 1 : 0, 1);
                     String tokens = Shown.tokens(p.product());
                     dueText("7: the last token", tokens.substring(tokens.lastIndexOf(' ')), " 4@" + distance);
+                    Due.due("7: told(4) with distance " + distance, p.told(4), fixedBits(tokens));
                 } else {
                     Probe p = row("abcdefgh".substring(0, distance)).again(distance, 3);
                     dueTokens("three bytes " + distance + " back", p,
@@ -799,6 +818,9 @@ public final class PackEdgeTest {
         dueGroups(10, 2, 20, 6, 30, "17*10 4 4 17*8 4 16*5 17*4 4 16*6 18*138 18*81 4 0");
         dueGroups(10, 5, 20, 10, 30, "17*10 4 16*4 17*5 4 16*6 16*3 18*138 18*88 4 0");
         dueGroups(10, 2, 20, 13, 40, "17*10 4 4 17*8 4 16*6 16*6 18*138 18*85 4 0");
+        // From the very first symbol on.
+        dueGroups(0, 4, 20, 3, 30, "4 16*3 18*16 4 4 4 17*7 4 16*6 4 18*138 18*80 4 0");
+        dueGroups(0, 3, 20, 5, 30, "4 4 4 18*17 4 16*4 17*5 4 16*6 18*138 18*81 4 0");
         dueGroups(241, 15, 0, 0, 0, "18*138 18*103 4 16*6 16*6 16*3 0");
         dueGroups(240, 15, 0, 0, 0, "18*138 18*102 4 16*6 16*6 4 4 0 4 0");
         // 256 is one more of the same: two and it are not enough, three and it are.
@@ -831,13 +853,15 @@ public final class PackEdgeTest {
             p.pack();
             Due.due("7: told(3) of " + row[0], p.told(3), 8 * (row[0] + 5 * row[1]));
         }
-        Probe p = new Probe().add(high(31));
-        p.pack();
-        StringBuilder due = new StringBuilder("stored, 00000 31 65504: ");
-        for (byte b : high(31)) {
-            due.append(b & 255).append(' ');
+        for (int n = 30; n <= 32; n++) {
+            Probe p = new Probe().add(high(n));
+            p.pack();
+            StringBuilder due = new StringBuilder("stored, 00000 " + n + " " + (65535 - n) + ": ");
+            for (byte b : high(n)) {
+                due.append(b & 255).append(' ');
+            }
+            dueText("7: one stored block of " + n, Shown.of(p.product()), due + "bits behind ");
         }
-        dueText("7: one stored block", Shown.of(p.product()), due + "bits behind ");
     }
 
     // "The product is the one with the fewest bits of: stored blocks, one block of fixed codes, one of own codes; of

@@ -52,12 +52,15 @@ public final class UnpackEdgeTest {
         fault7Distance();
         fault7OneBit();
         fault7NoBit();
+        lengthsAtTheirEdges();
+        distancesAtTheirEdges();
         fault8();
         fault8Farthest();
         fault9Byte();
         fault9Match();
         fault9Stored();
         fault9Full();
+        symbolsOfOneBit();
         severalFit();
         oneBeforeAllOthers();
         placeBehindOtherBlocks();
@@ -464,6 +467,10 @@ public final class UnpackEdgeTest {
         right("1 2/2 0/5 0/5 15/4" + C18 + " 0/3 0 127/7 0 107/7 110 10 0", 0, "");
         // The place moves with what is before it.
         wrong("0 1/2" + END + " 1 2/2 0/5 0/5 0/4 0/3 0/3 0/3 1/3", 9, 5, 27);
+        // "the others 0": also when a block before had a C with more of them.
+        String before = own(lengths(257, 256, 1), lengths(1)).replaceFirst("1", "0") + "0 ";
+        right(before + "1 2/2 0/5 0/5 14/4" + C18 + " 0 127/7 0 107/7 110 10 0", 0, "");
+        wrong(before + "1 2/2 0/5 0/5 0/4 0/3 0/3 1/3 0/3", 9, 5, ownEnd(new int[257], new int[1]) + 1 + 17);
     }
 
     // FAULTS: "6 a length of the L + D: ... 16 without one before"
@@ -721,6 +728,51 @@ public final class UnpackEdgeTest {
         right(own(symbols, new int[30]) + "0 0 10", 9, "aa");
     }
 
+    // STREAMS: the lengths and the distances of each symbol, with their bits more: the first and the last one.
+
+    private static void lengthsAtTheirEdges() {
+        String[] codes = Reference.codes(Reference.fixedLengths());
+        for (int i = 0; i < 29; i++) {
+            int bits = Reference.lengthBits(i);
+            for (int more : new int[] {0, (1 << bits) - 1}) {
+                int length = Reference.lengthFirst(i) + more;
+                String match = " " + codes[257 + i] + " " + more + "/" + bits + ONE;
+                right("1 1/2" + A + match + " 10010010" + END, 65536, "a".repeat(1 + length) + "b");
+                wrong("1 1/2" + A + match + " 10010010" + END, length, 9, 11 + codes[257 + i].length() + bits);
+            }
+        }
+    }
+
+    /** The byte b and so many bytes less one, all a; bits and bytes. */
+    private static String someBytes(int n) {
+        StringBuilder text = new StringBuilder(" 10010010");
+        int left = n - 1;
+        if (left > 0) {
+            text.append(A);
+            left--;
+        }
+        while (left >= 258) {
+            text.append(MOST).append(ONE);
+            left -= 258;
+        }
+        return text + A.repeat(left);
+    }
+
+    private static void distancesAtTheirEdges() {
+        String[] codes = Reference.codes(Reference.fixedDistanceLengths());
+        for (int d = 0; d < 30; d++) {
+            int bits = Reference.distanceBits(d);
+            for (int more : new int[] {0, (1 << bits) - 1}) {
+                int distance = Reference.distanceFirst(d) + more;
+                String match = THREE + " " + codes[d] + " " + more + "/" + bits + END;
+                String made = "b" + "a".repeat(distance - 1);
+                right("1 1/2" + someBytes(distance) + match, 65536, made + (made + made + made).substring(0, 3));
+                String less = distance == 1 ? "" : someBytes(distance - 1);
+                wrong("1 1/2" + less + match, 65536, 8, 3 + Due.bits(" " + less).length() + 7);
+            }
+        }
+    }
+
     // FAULTS: "8 a distance beyond the beginning"
 
     private static void fault8() {
@@ -812,6 +864,19 @@ public final class UnpackEdgeTest {
         p.alter((behind + 65536) / 8, 1 << (behind + 65536) % 8);
         dueRight("11: 65536 bytes of one bit", p, 65536, 65536, (behind + 65536) / 8 + 1);
         dueWrong("11: 65536 bytes of one bit", p, 65535, 9, behind + 65535);
+    }
+
+    /** Nearly as many symbols as there are bits. */
+    private static void symbolsOfOneBit() {
+        int[] symbols = lengths(257, 97, 1, 256, 1);
+        int behind = ownEnd(symbols, new int[1]);
+        Probe p = stream(own(symbols, new int[1]) + "0000000000000000");
+        p.again(1, 2000 - p.length());
+        dueWrong("11: 2000 bytes, and no end", p, 65536, 1, 16000);
+        p.alter(1999, 128);
+        dueRight("11: 2000 bytes, the last bit is the end", p, 65536, 15999 - behind, 2000);
+        p.alter(1999, 64);
+        dueRight("11: 2000 bytes, the last bit but one is the end", p, 65536, 15998 - behind, 2000);
     }
 
     // FAULTS: "Where several fit, the least is told, but 1 before all others."
