@@ -5,8 +5,9 @@ import java.util.zip.Deflater;
 
 /**
  * The boundary cases of promises 7 to 9, with 'Terms', STREAMS and PACKING: for each sentence that names one a test of
- * its own, at the edge, just inside it and just outside it, with what is due worked out by hand. No object is called
- * more than 512 times.
+ * its own, at the edge, just inside it and just outside it. What is due was worked out by hand, but for some rows that
+ * were found by trying (equal bits, a C above 7 bits, a run over the border), with the bits or items that the reference
+ * tells. No object is called more than 512 times.
  */
 public final class PackEdgeTest {
     private static final int MIN = Integer.MIN_VALUE;
