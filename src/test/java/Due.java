@@ -1,6 +1,7 @@
 import java.util.Arrays;
+import java.util.zip.CRC32;
 
-/** What the tests share: answers that are due, rows loaded into an object, bits put together by hand. */
+/** What the tests share: answers that are due, bits and bytes put together by hand. */
 final class Due {
     static final int ARGUMENT = 1;
     static final int STATE = 2;
@@ -69,31 +70,11 @@ final class Due {
         return number;
     }
 
-    /** Makes these bytes the row, by feed, end, again and alter. */
-    static void load(PackedBytes x, byte[] bytes) {
-        x.end(0);
-        int at = 0;
-        while (at < bytes.length && x.length() + 20 <= 65536) {
-            x.feed(number(bytes, at), number(bytes, at + 4), number(bytes, at + 8), number(bytes, at + 12), number(bytes, at + 16));
-            at += 20;
-        }
-        if (x.length() >= bytes.length) {
-            x.end(bytes.length);
-            return;
-        }
-        int have = x.length();
-        x.again(1, bytes.length - have);
-        for (int i = have; i < bytes.length; i++) {
-            x.alter(i, bytes[i] & 255);
-        }
-    }
-
-    static byte[] product(PackedBytes x) {
-        byte[] bytes = new byte[x.size()];
-        for (int i = 0; i < bytes.length; i++) {
-            bytes[i] = (byte) x.byteAt(i);
-        }
-        return bytes;
+    /** The check of these bytes, as the library has it. */
+    static long crc(byte[] bytes) {
+        CRC32 crc = new CRC32();
+        crc.update(bytes);
+        return crc.getValue();
     }
 
     /** Numbers with their lowest bit first: "value/bits", and codes as they stand: "0110"; all parted by blanks. */

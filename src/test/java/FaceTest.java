@@ -25,6 +25,8 @@ public final class FaceTest {
 
     public static void main(String[] args) {
         face();
+        methods();
+        constants();
         newObject();
         objectsApart();
         Due.finish("FaceTest");
@@ -33,30 +35,52 @@ public final class FaceTest {
     private static void face() {
         Class<?> face = PackedBytes.class;
         Due.due("public and final", face.getModifiers(), Modifier.PUBLIC | Modifier.FINAL);
-        TreeSet<String> open = new TreeSet<>();
-        for (Method m : face.getDeclaredMethods()) {
-            if (!Modifier.isPrivate(m.getModifiers())) {
-                Due.due(m.getName() + " is public alone", m.getModifiers(), Modifier.PUBLIC);
-                open.add(m.getReturnType() + " " + m.getName() + "(" + names(m.getParameterTypes()) + ")"
-                    + (m.getExceptionTypes().length == 0 ? "" : " throws " + names(m.getExceptionTypes())));
-            }
-        }
-        if (!open.equals(new TreeSet<>(Arrays.asList(FACE)))) {
-            System.out.println("the methods are " + open);
-        }
-        Due.due("the methods are the document's", open.equals(new TreeSet<>(Arrays.asList(FACE))) ? 1 : 0, 1);
-        for (Class<?> inside : face.getDeclaredClasses()) {
-            Due.due(inside.getSimpleName() + " is static", Modifier.isStatic(inside.getModifiers()) ? 1 : 0, 1);
-            Due.due(inside.getSimpleName() + " is public", Modifier.isPublic(inside.getModifiers()) ? 1 : 0, 0);
-        }
-        for (Field f : face.getDeclaredFields()) {
-            boolean none = f.getName().equals("NONE");
-            Due.due("the field " + f.getName() + " is private", Modifier.isPrivate(f.getModifiers()) ? 1 : 0, none ? 0 : 1);
-        }
+        Due.due("it extends nothing", face.getSuperclass() == Object.class ? 1 : 0, 1);
+        Due.due("it implements nothing", face.getInterfaces().length, 0);
         Constructor<?>[] makers = face.getDeclaredConstructors();
         Due.due("constructors", makers.length, 1);
         Due.due("the constructor is public", makers[0].getModifiers(), Modifier.PUBLIC);
+        Due.due("the constructor takes nothing", makers[0].getParameterCount(), 0);
+        for (Class<?> inside : face.getDeclaredClasses()) {
+            int open = inside.getModifiers() & (Modifier.PUBLIC | Modifier.PROTECTED);
+            Due.due(inside.getSimpleName() + " is static", Modifier.isStatic(inside.getModifiers()) ? 1 : 0, 1);
+            Due.due(inside.getSimpleName() + " is private or package-visible", open, 0);
+        }
+    }
+
+    private static void methods() {
+        TreeSet<String> open = new TreeSet<>();
+        TreeSet<String> openNames = new TreeSet<>();
+        TreeSet<String> privateNames = new TreeSet<>();
+        for (Method m : PackedBytes.class.getDeclaredMethods()) {
+            if (Modifier.isPrivate(m.getModifiers())) {
+                privateNames.add(m.getName());
+                continue;
+            }
+            Due.due(m.getName() + " is public alone", m.getModifiers(), Modifier.PUBLIC);
+            openNames.add(m.getName());
+            open.add(m.getReturnType() + " " + m.getName() + "(" + names(m.getParameterTypes()) + ")"
+                + (m.getExceptionTypes().length == 0 ? "" : " throws " + names(m.getExceptionTypes())));
+        }
+        boolean same = open.equals(new TreeSet<>(Arrays.asList(FACE)));
+        if (!same) {
+            System.out.println("the methods are " + open);
+        }
+        Due.due("the methods are the document's", same ? 1 : 0, 1);
+        privateNames.retainAll(openNames);
+        Due.due("private methods with the name of a public one", privateNames.size(), 0);
+    }
+
+    private static void constants() {
         Due.due("NONE", PackedBytes.NONE, -1);
+        for (Field f : PackedBytes.class.getDeclaredFields()) {
+            if (f.getName().equals("NONE")) {
+                Due.due("NONE is public static final", f.getModifiers(), Modifier.PUBLIC | Modifier.STATIC | Modifier.FINAL);
+                Due.due("NONE is an int", f.getType() == int.class ? 1 : 0, 1);
+            } else {
+                Due.due("the field " + f.getName() + " is private", Modifier.isPrivate(f.getModifiers()) ? 1 : 0, 1);
+            }
+        }
     }
 
     private static String names(Class<?>[] types) {
@@ -68,7 +92,7 @@ public final class FaceTest {
     }
 
     private static void newObject() {
-        PackedBytes x = new PackedBytes();
+        Probe x = new Probe();
         Due.due("length()", x.length(), 0);
         Due.due("size()", x.size(), 0);
         Due.due("check()", x.check(), 0);
@@ -91,8 +115,8 @@ public final class FaceTest {
     }
 
     private static void objectsApart() {
-        PackedBytes x = new PackedBytes();
-        PackedBytes y = new PackedBytes();
+        Probe x = new Probe();
+        Probe y = new Probe();
         x.feed(1, 2, 3, 4, 5);
         x.pack();
         Due.due("the other's length()", y.length(), 0);

@@ -1,7 +1,5 @@
 import java.util.Arrays;
 import java.util.Random;
-import java.util.zip.CRC32;
-import java.util.zip.Deflater;
 
 /**
  * The boundary cases of promises 7 to 9, with 'Terms', STREAMS and PACKING: for each sentence that names one a test of
@@ -109,48 +107,6 @@ public final class PackEdgeTest {
         dueTokens("'" + letters + "'", row(letters), want);
     }
 
-    private static long crc(byte[] bytes) {
-        CRC32 crc = new CRC32();
-        crc.update(bytes);
-        return crc.getValue();
-    }
-
-    /** So many of each byte, in an order in which no three bytes stand twice: there is no match. */
-    private static byte[] withoutMatches(int[] counts) {
-        int all = Arrays.stream(counts).sum();
-        for (int seed = 0; seed < 1000; seed++) {
-            byte[] row = withoutMatches(counts.clone(), all, new Random(seed));
-            if (row.length == all) {
-                return row;
-            }
-        }
-        throw new AssertionError("no such order");
-    }
-
-    private static byte[] withoutMatches(int[] left, int all, Random random) {
-        byte[] row = new byte[all];
-        boolean[] seen = new boolean[1 << 24];
-        int three = 0;
-        int n = 0;
-        for (int tries = 0; tries < 1000 && n < all; tries++) {
-            int at = random.nextInt(all - n);
-            int b = 0;
-            while (at >= left[b]) {
-                at -= left[b];
-                b++;
-            }
-            int next = (three << 8 | b) & 0xFFFFFF;
-            if (n < 2 || !seen[next]) {
-                seen[next] = n >= 2;
-                three = next;
-                row[n++] = (byte) b;
-                left[b]--;
-                tries = 0;
-            }
-        }
-        return Arrays.copyOf(row, n);
-    }
-
     /** The lengths of a table, as a text: "symbol:length", without those that are 0. */
     private static String lengths(Probe p, int table, int from, int to) {
         StringBuilder text = new StringBuilder();
@@ -217,7 +173,7 @@ public final class PackEdgeTest {
         byte[] whole = new byte[65536];
         System.arraycopy(Due.bytes(1, 0xFB, 0xFF, 4, 0), 0, whole, 0, 5);
         System.arraycopy(noise, 0, whole, 5, 65531);
-        Due.due("7: check() of the product of 65531", p.check(), crc(whole));
+        Due.due("7: check() of the product of 65531", p.check(), Due.crc(whole));
         p.end(0);
         Due.due("7: pack() of none behind it", p.pack(), 2);
         Due.due("7: its product", p.product(), Due.bytes(3, 0));
@@ -348,7 +304,7 @@ public final class PackEdgeTest {
     private static void nearestOfAsManyAt258() {
         int[] counts = new int[256];
         Arrays.fill(counts, 'a', 'a' + 20, 15);
-        byte[] some = withoutMatches(counts);
+        byte[] some = Rows.withoutMatches(counts);
         // The nearest has 257, 258 or 259 bytes the same, the farther one all 300: 258 is the most that counts.
         String[] due = {" A 257@301 B 258@559 42@559", " A 258@301 B 258@259 42@560",
             " A 258@301 " + (char) some[258] + " B 258@260 42@561"};
@@ -478,28 +434,13 @@ public final class PackEdgeTest {
     // OWN LENGTHS: "If a length would be above 15 (7 for the C), each count that is not 0 becomes half of one more than
     // itself, rounded down, and all is done again."
 
-    /** 32 bytes come 240 times; others 1, 2, 3, 5, 8 .. times, each joined with all that were joined before it. */
-    private static Probe chain(int others) {
-        int[] counts = new int[256];
-        Arrays.fill(counts, 100, 132, 240);
-        int one = 1;
-        int two = 2;
-        for (int k = 0; k < others; k++) {
-            counts[150 + k] = one;
-            int next = one + two;
-            one = two;
-            two = next;
-        }
-        return new Probe().add(withoutMatches(counts));
-    }
-
     private static void symbolsAbove15() {
         // The chain's root is 6 deep, with 100; the others 5.
-        Probe inside = chain(8);
+        Probe inside = new Probe().add(Rows.chain(8));
         inside.pack();
         dueText("7: a chain of 8", lengths(inside, 0, 150, 160), "150:14 151:13 152:12 153:11 154:10 155:9 156:8 157:7");
         Due.due("7: the end", inside.codeLength(0, 256), 14);
-        Probe edge = chain(9);
+        Probe edge = new Probe().add(Rows.chain(9));
         edge.pack();
         Due.due("7: a chain of 9: told(2)", edge.told(2), 0);
         dueText("7: a chain of 9", lengths(edge, 0, 150, 160),
@@ -508,7 +449,7 @@ public final class PackEdgeTest {
         dueText("7: the first of the 32 and the next", lengths(edge, 0, 100, 102), "100:6 101:5");
         Due.due("7: C is 19, for a length of 15", 4 + (edge.byteAt(1) >> 5 | (edge.byteAt(2) & 1) << 3), 19);
         // Halved: 1 1 2 3 4 7 11 17 28 45, the end 1, the 32 bytes 120.
-        Probe outside = chain(10);
+        Probe outside = new Probe().add(Rows.chain(10));
         outside.pack();
         Due.due("7: a chain of 10: told(2)", outside.told(2), 0);
         dueText("7: a chain of 10", lengths(outside, 0, 150, 160),
@@ -519,135 +460,18 @@ public final class PackEdgeTest {
         Due.due("7: C is 11, for a length of 11", 4 + (outside.byteAt(1) >> 5 | (outside.byteAt(2) & 1) << 3), 11);
     }
 
-    /** Matches of three bytes, a byte behind each, of so many distance symbols from 2 on; the last comes once, the
-     * others as often as Fibonacci's numbers tell. */
-    private static final class Matches {
-        private static final int LETTERS = 64;
-        private final byte[] row = new byte[40000];
-        private final int[] last = new int[1 << 24];
-        private final Random random;
-        private int n = 0;
-
-        Matches(long seed) {
-            random = new Random(seed);
-            Arrays.fill(last, -1);
-        }
-
-        private int three(int at) {
-            return (row[at] & 255) << 16 | (row[at + 1] & 255) << 8 | row[at + 2] & 255;
-        }
-
-        private void put(int b) {
-            row[n++] = (byte) b;
-            if (n >= 3) {
-                last[three(n - 3)] = n - 3;
-            }
-        }
-
-        private boolean isNew(int b) {
-            row[n] = (byte) b;
-            return n < 2 || last[three(n - 2)] < 0;
-        }
-
-        private void noise(int count) {
-            while (n < count) {
-                int b = random.nextInt(LETTERS);
-                if (isNew(b)) {
-                    put(b);
-                }
-            }
-        }
-
-        /** A byte and a match: the byte ends the match before it and begins none; the match's bytes stand nowhere nearer. */
-        private boolean match(int symbol) {
-            int b = random.nextInt(LETTERS);
-            int distance = Reference.distanceFirst(symbol) + random.nextInt(1 << Reference.distanceBits(symbol));
-            int place = n + 1 - distance;
-            row[n] = (byte) b;
-            row[n + 1] = row[place];
-            row[n + 2] = row[place + 1];
-            row[n + 3] = row[place + 2];
-            if (last[three(n)] >= 0 || longer(b) || last[three(place)] != (place + 2 < n ? place : -1)) {
-                return false;
-            }
-            for (int q = Math.max(n - 2, place + 1); q <= n; q++) {
-                if (three(q) == three(n + 1)) {
-                    return false;
-                }
-            }
-            for (int k = 0; k < 4; k++) {
-                put(row[n]);
-            }
-            return true;
-        }
-
-        /** The three bytes before, with this one, stand somewhere already. */
-        private boolean longer(int b) {
-            for (int q = 0; q + 3 < n; q++) {
-                if (row[q + 3] == b && row[q] == row[n - 3] && row[q + 1] == row[n - 2] && row[q + 2] == row[n - 1]) {
-                    return true;
-                }
-            }
-            return false;
-        }
-
-        static byte[] row(int symbols) {
-            Matches m = new Matches(symbols);
-            int[] left = new int[30];
-            int one = 1;
-            int two = 1;
-            int all = 0;
-            for (int d = symbols + 1; d >= 2; d--) {
-                left[d] = one;
-                all += one;
-                int next = one + two;
-                one = two;
-                two = next;
-            }
-            m.noise(800);
-            while (all > 0) {
-                int at = m.random.nextInt(all);
-                int d = 0;
-                while (at >= left[d]) {
-                    at -= left[d];
-                    d++;
-                }
-                if (m.match(d)) {
-                    left[d]--;
-                    all--;
-                }
-            }
-            return Arrays.copyOf(m.row, m.n);
-        }
-    }
-
-    /** A row that is too long to be fed: the library packs it, and it is unpacked. */
-    private static Probe unpacked(byte[] row) {
-        Deflater deflater = new Deflater(9, true);
-        deflater.setInput(row);
-        deflater.finish();
-        byte[] stream = new byte[row.length + 100];
-        int n = deflater.deflate(stream);
-        deflater.end();
-        Probe p = new Probe().add(Arrays.copyOf(stream, n));
-        p.unpack(65536);
-        p.back();
-        Due.due("the row is loaded", p.check(), crc(row));
-        return p;
-    }
-
     private static void distancesAbove15() {
-        Probe inside = unpacked(Matches.row(15));
+        Probe inside = new Probe().load(Rows.ofDistances(15));
         inside.pack();
         dueText("7: 15 distances", lengths(inside, 1, 0, 30),
             "2:1 3:2 4:3 5:4 6:5 7:6 8:7 9:8 10:9 11:10 12:11 13:12 14:13 15:14 16:14");
-        Probe edge = unpacked(Matches.row(16));
+        Probe edge = new Probe().load(Rows.ofDistances(16));
         edge.pack();
         Due.due("7: 16 distances: told(2)", edge.told(2), 2583);
         dueText("7: 16 distances", lengths(edge, 1, 0, 30),
             "2:1 3:2 4:3 5:4 6:5 7:6 8:7 9:8 10:9 11:10 12:11 13:12 14:13 15:14 16:15 17:15");
         // Halved: 799 494 305 189 117 72 45 28 17 11 7 4 3 2 1 1 1.
-        Probe outside = unpacked(Matches.row(17));
+        Probe outside = new Probe().load(Rows.ofDistances(17));
         outside.pack();
         Due.due("7: 17 distances: told(2)", outside.told(2), 4180);
         dueText("7: 17 distances", lengths(outside, 1, 0, 30),
@@ -671,7 +495,7 @@ public final class PackEdgeTest {
                 counts[s++] = length == 0 ? 0 : 4 << greatest - length;
             }
         }
-        return new Probe().add(withoutMatches(counts));
+        return new Probe().add(Rows.withoutMatches(counts));
     }
 
     private static void dueItems(String name, Probe p, String items) {
@@ -723,7 +547,7 @@ public final class PackEdgeTest {
         for (int b : letters) {
             counts[b] = times;
         }
-        return withoutMatches(counts);
+        return Rows.withoutMatches(counts);
     }
 
     private static void smallestL() {

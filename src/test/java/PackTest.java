@@ -7,6 +7,8 @@ import java.util.zip.Inflater;
 public final class PackTest {
     private static int halvings = 0;
     private static final int[] kinds = new int[3];
+    /** The row that was compared last. */
+    private static byte[] before = {};
 
     public static void main(String[] args) {
         byHand();
@@ -30,30 +32,63 @@ public final class PackTest {
     }
 
     /** All that pack() answers for, compared with the reference; the library must unpack it to the row. */
-    private static void compare(String name, PackedBytes x, byte[] row) {
-        Due.load(x, row);
+    private static Reference.Packed compare(String name, byte[] row) {
         Reference.Packed want = Reference.pack(row);
         halvings |= want.halvings;
         kinds[want.kind]++;
-        byte[] product = want.product();
-        Due.due(name + ": pack()", x.pack(), product.length);
-        Due.due(name + ": product", Due.product(x), product);
-        Due.due(name + ": told(0)", x.told(0), want.kind);
-        Due.due(name + ": told(1)", x.told(1), want.byteTokens);
-        Due.due(name + ": told(2)", x.told(2), want.matchTokens);
-        for (int k = 0; k < 3; k++) {
-            Due.due(name + ": told(" + (3 + k) + ")", x.told(3 + k), want.streams[k].length());
-            for (int s = 0; s < want.lengths[k].length; s++) {
-                Due.due(name + ": codeLength(" + k + ", " + s + ")", x.codeLength(k, s), want.lengths[k][s]);
-            }
+        Due.due(name + ": the library's unpacking", inflate(want.product(), row.length), row);
+        compareProduct(name, row, want);
+        compareLengths(name, row, want);
+        before = row;
+        return want;
+    }
+
+    /** An object with this row, and so many calls left. If it can, it has packed the row before, which must leave nothing. */
+    private static Probe loaded(byte[] row, int calls) {
+        Probe p = new Probe();
+        if (Probe.callsToLoad(before) + 1 + Probe.callsToLoad(row) + calls <= p.left()) {
+            p.load(before).pack();
         }
-        Due.due(name + ": length() stays", x.length(), row.length);
-        Due.due(name + ": the library's unpacking", inflate(product, row.length), row);
-        if (product.length <= 65536) {
-            x.back();
-            Due.due(name + ": unpack()", x.unpack(row.length), row.length);
-            Due.due(name + ": unpacked", Due.product(x), row);
-            Due.due(name + ": blame(2)", x.blame(2), product.length);
+        return p.load(row);
+    }
+
+    private static void compareProduct(String name, byte[] row, Reference.Packed want) {
+        Probe p = loaded(row, 17);
+        byte[] product = want.product();
+        Due.due(name + ": pack()", p.pack(), product.length);
+        compareTold(name, p, want);
+        Due.due(name + ": length() stays", p.length(), row.length);
+        Due.due(name + ": check() stays", p.check(), Due.crc(row));
+        p.back();
+        Due.due(name + ": product", p.check(), Due.crc(product));
+        Due.due(name + ": unpack()", p.unpack(row.length), row.length);
+        Due.due(name + ": blame(2)", p.blame(2), product.length);
+        p.back();
+        Due.due(name + ": unpacked", p.check(), Due.crc(row));
+    }
+
+    private static void compareTold(String name, Probe p, Reference.Packed want) {
+        Due.due(name + ": size()", p.size(), want.product().length);
+        Due.due(name + ": told(0)", p.told(0), want.kind);
+        Due.due(name + ": told(1)", p.told(1), want.byteTokens);
+        Due.due(name + ": told(2)", p.told(2), want.matchTokens);
+        for (int k = 0; k < 3; k++) {
+            Due.due(name + ": told(" + (3 + k) + ")", p.told(3 + k), want.streams[k].length());
+        }
+    }
+
+    /** There are 335 lengths to ask for, so a long row is packed by several objects. */
+    private static void compareLengths(String name, byte[] row, Reference.Packed want) {
+        Probe p = loaded(row, 1 + 335);
+        p.pack();
+        for (int k = 0; k < 3; k++) {
+            for (int s = 0; s < want.lengths[k].length; s++) {
+                if (p.left() == 0) {
+                    p = new Probe().load(row);
+                    p.pack();
+                }
+                Due.due(name + ": codeLength(" + k + ", " + s + ")", p.codeLength(k, s), want.lengths[k][s]);
+            }
         }
     }
 
@@ -75,9 +110,9 @@ public final class PackTest {
     }
 
     private static void byHand() {
-        PackedBytes x = new PackedBytes();
+        Probe x = new Probe();
         Due.due("pack() of none", x.pack(), 2);
-        Due.due("its product", Due.product(x), Due.bytes(Due.bits("1 1/2 0000000")));
+        Due.due("its product", x.product(), Due.bytes(Due.bits("1 1/2 0000000")));
         int[] told = {1, 0, 0, 40, 10, 92};
         for (int what = 0; what < 6; what++) {
             Due.due("told(" + what + ") of none", x.told(what), told[what]);
@@ -91,11 +126,11 @@ public final class PackTest {
         Due.due("twenty a: bytes", x.told(1), 1);
         Due.due("twenty a: matches", x.told(2), 1);
         // The byte 0x61 is 0x30 + 0x61; 19 is symbol 269 with two bits more; the distance is 1.
-        Due.due("twenty a", Due.product(x), Due.bytes(Due.bits("1 1/2 10010001 0001101 00 00000 0000000")));
+        Due.due("twenty a", x.product(), Due.bytes(Due.bits("1 1/2 10010001 0001101 00 00000 0000000")));
     }
 
     private static void wrongArguments() {
-        PackedBytes x = new PackedBytes();
+        Probe x = new Probe();
         for (int round = 0; round < 2; round++) {
             for (int what : new int[] {-1, 6, Integer.MIN_VALUE, Integer.MAX_VALUE}) {
                 Due.dueThrow("told(" + what + ")", () -> x.told(what), Due.ARGUMENT);
@@ -113,7 +148,6 @@ public final class PackTest {
     }
 
     private static void shortRows() {
-        PackedBytes x = new PackedBytes();
         Random random = new Random(3);
         for (int n = 0; n < 40; n++) {
             for (int kinds : new int[] {1, 2, 3, 256}) {
@@ -121,44 +155,51 @@ public final class PackTest {
                 for (int i = 0; i < n; i++) {
                     row[i] = (byte) (random.nextInt(kinds) * 37);
                 }
-                compare("short row " + n + " of " + kinds, x, row);
+                compare("short row " + n + " of " + kinds, row);
             }
         }
     }
 
+    /** Noise of at most 65536 bytes; a product of more can't become the row, so some of its bytes are asked for. */
     private static void storedEdges() {
-        PackedBytes x = new PackedBytes();
-        byte[] noise = new byte[65536];
-        new Random(4).nextBytes(noise);
-        compare("65536 of noise", x, noise);
-        compare("65535 of noise", x, Arrays.copyOf(noise, 65535));
-        Due.due("65535 in one stored block", x.told(3), 8 * (65535 + 5));
-        compare("65534 of noise", x, Arrays.copyOf(noise, 65534));
-        compare("300 of noise", x, Arrays.copyOf(noise, 300));
+        Probe p = new Probe();
+        byte[] noise = Noise.fill(p);
+        for (int n : new int[] {65536, 65535, 65532, 65531}) {
+            Reference.Packed want = Reference.pack(Arrays.copyOf(noise, n));
+            byte[] product = want.product();
+            Due.due(n + " of noise: pack()", p.end(n).pack(), product.length);
+            compareTold(n + " of noise", p, want);
+            for (int i : new int[] {0, 1, 2, 3, 4, 5, 6, 32768, n - 1, n, n + 3, product.length - 1}) {
+                Due.due(n + " of noise: byteAt(" + i + ")", p.byteAt(i), product[i] & 255);
+            }
+            kinds[want.kind]++;
+        }
+        p.back();
+        Due.due("65531 of noise: product", p.check(), Due.crc(Reference.pack(Arrays.copyOf(noise, 65531)).product()));
+        Due.due("65531 of noise: unpack()", p.unpack(65531), 65531);
+        compare("300 of noise", Arrays.copyOf(noise, 300));
     }
 
     private static void matchLengths() {
-        PackedBytes x = new PackedBytes();
         byte[] noise = new byte[600];
         new Random(5).nextBytes(noise);
         for (int n = 1; n <= 300; n++) {
             byte[] row = Arrays.copyOf(noise, 300 + n);
             System.arraycopy(noise, 0, row, 300, n);
-            compare("a match of " + n, x, row);
+            compare("a match of " + n, row);
         }
         for (int n : new int[] {257, 258, 259, 260, 261, 262, 516, 517, 65535, 65536}) {
-            compare(n + " of one byte", x, new byte[n]);
+            compare(n + " of one byte", new byte[n]);
         }
     }
 
     private static void matchDistances() {
-        PackedBytes x = new PackedBytes();
         for (int d = 0; d < 30; d++) {
             for (int distance : new int[] {Reference.distanceFirst(d), Reference.distanceFirst(d) + (1 << Reference.distanceBits(d)) - 1}) {
-                compare("a match so far back: " + distance, x, farMatch(distance));
+                compare("a match so far back: " + distance, farMatch(distance));
             }
         }
-        compare("one place too far back", x, farMatch(32769));
+        compare("one place too far back", farMatch(32769));
     }
 
     /** Four bytes that stand again this far behind, zeros between them. */
@@ -175,7 +216,6 @@ public final class PackTest {
 
     /** The best match stands at the 64th or 65th place with the same three bytes. */
     private static void sixtyFourPlaces() {
-        PackedBytes x = new PackedBytes();
         for (int others : new int[] {62, 63, 64, 65}) {
             byte[] row = new byte[6 + 5 * others + 6];
             for (int k = 0; k < 6; k++) {
@@ -186,102 +226,31 @@ public final class PackTest {
                 byte[] part = {1, 2, 3, (byte) (100 + i), (byte) (200 - i)};
                 System.arraycopy(part, 0, row, 6 + 5 * i, 5);
             }
-            compare(others + " places nearer", x, row);
             // Beyond the 64th the first six bytes are not seen: 1 2 3 and 4 5 6 are two matches.
-            Due.due(others + " places nearer: matches", x.told(2), others + (others < 64 ? 1 : 2));
+            Due.due(others + " places nearer: matches", compare(others + " places nearer", row).matchTokens,
+                others + (others < 64 ? 1 : 2));
         }
     }
 
     private static void nearestOfEqual() {
-        PackedBytes x = new PackedBytes();
         byte[] row = {1, 2, 3, 4, 9, 1, 2, 3, 4, 8, 1, 2, 3, 7, 1, 2, 3, 4, 6};
-        compare("the nearest of equal ones", x, row);
-        Due.due("matches", x.told(2), 3);
-        Due.due("no match is 14 back", x.codeLength(1, 7), 0);
-        Due.due("a match is 9 back", x.codeLength(1, 6) > 0 ? 1 : 0, 1);
+        Reference.Packed packed = compare("the nearest of equal ones", row);
+        Due.due("matches", packed.matchTokens, 3);
+        Due.due("no match is 14 back", packed.lengths[1][7], 0);
+        Due.due("a match is 9 back", packed.lengths[1][6] > 0 ? 1 : 0, 1);
     }
 
     /** Rows whose counts are so unlike that codes of more than 15 bits would come of them. */
     private static void longCodes() {
-        PackedBytes x = new PackedBytes();
-        for (int seed = 0; seed < 6; seed++) {
-            compare("Fibonacci bytes " + seed, x, fibonacciBytes(new Random(seed), 7 + seed % 3));
-            compare("Fibonacci distances " + seed, x, fibonacciDistances(new Random(seed), 16 + seed % 3));
-            compare("Fibonacci lengths of codes " + seed, x, fibonacciCodeLengths(new Random(seed)));
+        for (int others = 9; others <= 11; others++) {
+            compare("a chain of " + others, Rows.chain(others));
         }
-    }
-
-    /** A row in which three bytes stand together twice only where they shall. */
-    private static final class Sparse {
-        final byte[] row = new byte[65536];
-        final byte[] seen = new byte[1 << 24];
-        int n = 0;
-
-        int three(int at) {
-            return (row[at] & 255) << 16 | (row[at + 1] & 255) << 8 | row[at + 2] & 255;
+        for (int distances = 16; distances <= 17; distances++) {
+            compare("matches of " + distances + " distances", Rows.ofDistances(distances));
         }
-
-        boolean add(int b) {
-            row[n] = (byte) b;
-            if (n >= 2) {
-                if (seen[three(n - 2)] > 0) {
-                    return false;
-                }
-                seen[three(n - 2)]++;
-            }
-            n++;
-            return true;
+        for (int seed = 0; seed < 20; seed++) {
+            compare("Fibonacci lengths of codes " + seed, fibonacciCodeLengths(new Random(seed)));
         }
-
-        /** Three bytes from there, which stand nowhere else, and one that ends the match. */
-        boolean copy(int from, Random random) {
-            if (seen[three(from)] != 1) {
-                return false;
-            }
-            System.arraycopy(row, from, row, n, 3);
-            if (seen[three(n - 2)] > 0 || seen[three(n - 1)] > 0) {
-                return false;
-            }
-            for (int k = 0; k < 3; k++) {
-                seen[three(n - 2 + k)]++;
-            }
-            n += 3;
-            for (int k = 0; k < 1000 && !add(random.nextInt(256)); k++) {
-                continue;
-            }
-            return true;
-        }
-
-        byte[] whole() {
-            return Arrays.copyOf(row, n);
-        }
-    }
-
-    /** 190 bytes that come as often, and some with Fibonacci's counts, the first 1 being the block's end. */
-    private static byte[] fibonacciBytes(Random random, int kinds) {
-        int[] left = new int[256];
-        int one = 1;
-        int two = 2;
-        int all = 0;
-        for (int b = 190; b < 190 + kinds; b++) {
-            left[b] = one;
-            all += one;
-            int next = one + two;
-            one = two;
-            two = next;
-        }
-        int often = all + 10;
-        Arrays.fill(left, 0, 190, often);
-        all += 190 * often;
-        Sparse sparse = new Sparse();
-        while (all > 0) {
-            int b = pick(random, left, all);
-            if (sparse.add(b)) {
-                left[b]--;
-                all--;
-            }
-        }
-        return sparse.whole();
     }
 
     private static int pick(Random random, int[] left, int all) {
@@ -292,29 +261,6 @@ public final class PackTest {
             b++;
         }
         return b;
-    }
-
-    /** Noise, then matches of three bytes with it, of distances with Fibonacci's counts, the nearest first. */
-    private static byte[] fibonacciDistances(Random random, int kinds) {
-        Sparse sparse = new Sparse();
-        while (sparse.n < 25000) {
-            sparse.add(random.nextInt(256));
-        }
-        int one = 1;
-        int two = 1;
-        for (int d = 29 - kinds; d < 29; d++) {
-            int left = one;
-            while (left > 0) {
-                int distance = Reference.distanceFirst(d) + random.nextInt(1 << Reference.distanceBits(d));
-                if (sparse.copy(sparse.n - distance, random)) {
-                    left--;
-                }
-            }
-            int next = one + two;
-            one = two;
-            two = next;
-        }
-        return sparse.whole();
     }
 
     /** Many symbols of each length, with counts that double: the lengths of the C become unlike. */
@@ -342,32 +288,22 @@ public final class PackTest {
 
     /** All bytes, every other one oftener: no two lengths beside each other are the same, so none is repeated. */
     private static void manyHeaderItems() {
-        int[] left = new int[256];
-        int all = 0;
+        int[] counts = new int[256];
         for (int b = 0; b < 256; b++) {
-            left[b] = b % 2 == 0 ? 40 : 10;
-            all += left[b];
+            counts[b] = b % 2 == 0 ? 20 : 5;
         }
-        Random random = new Random(10);
-        Sparse sparse = new Sparse();
-        while (all > 0) {
-            int b = pick(random, left, all);
-            if (sparse.add(b)) {
-                left[b]--;
-                all--;
-            }
-        }
+        byte[] some = Rows.withoutMatches(counts);
+        byte[] row = Arrays.copyOf(some, some.length + 60 * 3 + 60 * 59 / 2);
+        int n = some.length;
         // Some matches at the end bring symbols above 256 and distances.
         for (int k = 0; k < 60; k++) {
-            byte[] part = Arrays.copyOfRange(sparse.row, 100 * k, 100 * k + 3 + k);
-            System.arraycopy(part, 0, sparse.row, sparse.n, part.length);
-            sparse.n += part.length;
+            System.arraycopy(some, 50 * k, row, n, 3 + k);
+            n += 3 + k;
         }
-        PackedBytes x = new PackedBytes();
-        compare("many header items", x, sparse.whole());
+        int[] lengths = compare("many header items", row).lengths[0];
         int changes = 0;
         for (int s = 1; s < 257; s++) {
-            changes += x.codeLength(0, s) != x.codeLength(0, s - 1) ? 1 : 0;
+            changes += lengths[s] != lengths[s - 1] ? 1 : 0;
         }
         Due.due("lengths that are not the one before", changes, 256);
     }
@@ -387,19 +323,27 @@ public final class PackTest {
         for (int i = 0; i < n; i++) {
             row[i] = (byte) (least + random.nextInt(kinds));
         }
-        PackedBytes x = new PackedBytes();
-        compare("equal bits " + equal, x, row);
-        Due.due("equal bits " + equal + ": told(0)", x.told(0), due);
+        Reference.Packed packed = compare("equal bits " + equal, row);
+        Due.due("equal bits " + equal + ": told(0)", packed.kind, due);
         for (int k = 1; k < equal.length(); k++) {
-            Due.due("equal bits " + equal, x.told(3 + equal.charAt(k) - '0'), x.told(3 + equal.charAt(0) - '0'));
+            Due.due("equal bits " + equal, packed.streams[equal.charAt(k) - '0'].length(),
+                packed.streams[equal.charAt(0) - '0'].length());
         }
     }
 
     private static void randomRows() {
-        PackedBytes x = new PackedBytes();
         Random random = new Random(6);
-        for (int k = 0; k < 400; k++) {
-            compare("random row " + k, x, randomRow(random, k < 380 ? 3000 : 65536));
+        for (int k = 0; k < 380; k++) {
+            compare("random row " + k, randomRow(random, 3000));
+        }
+        int longRows = 0;
+        while (longRows < 20) {
+            byte[] row = randomRow(random, 65536);
+            // 512 calls can't bring every long row.
+            if (Probe.callsToLoad(row) < 450) {
+                compare("long random row " + longRows, row);
+                longRows++;
+            }
         }
     }
 
@@ -423,7 +367,7 @@ public final class PackTest {
     }
 
     private static void throwsAndUnpackLeaveIt() {
-        PackedBytes x = new PackedBytes();
+        Probe x = new Probe();
         x.feed(1, 2, 3, 4, 5);
         x.pack();
         int[] told = new int[6];

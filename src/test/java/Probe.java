@@ -1,4 +1,6 @@
+import java.util.Arrays;
 import java.util.zip.DataFormatException;
+import java.util.zip.Deflater;
 import java.util.zip.Inflater;
 
 /** An object that is called through here, so that no test asks more of it than the document's 512 calls. */
@@ -18,6 +20,11 @@ final class Probe {
             throw new AssertionError("a test makes more than 512 calls on one object");
         }
         return x;
+    }
+
+    /** How many calls more the document allows. */
+    int left() {
+        return MOST_CALLS - calls;
     }
 
     Probe feed(int a, int b, int c, int d, int e) {
@@ -95,6 +102,35 @@ final class Probe {
         return add(Due.bytes(bytes));
     }
 
+    /** How many calls load() makes for this row. */
+    static int callsToLoad(byte[] row) {
+        int stream = deflate(row).length;
+        return Math.min((row.length + 19) / 20 + 4, (stream + 19) / 20 + 6);
+    }
+
+    /** Makes these bytes the row: they are fed, or a stream of the library's is that unpacks to them. */
+    Probe load(byte[] row) {
+        byte[] stream = deflate(row);
+        if (row.length <= stream.length + 40) {
+            end(0).add(row);
+        } else {
+            end(0).add(stream).unpack(65536);
+            back();
+        }
+        Due.due("the row is loaded", check(), Due.crc(row));
+        return this;
+    }
+
+    private static byte[] deflate(byte[] row) {
+        Deflater deflater = new Deflater(9, true);
+        deflater.setInput(row);
+        deflater.finish();
+        byte[] stream = new byte[row.length + 100];
+        int n = deflater.deflate(stream);
+        deflater.end();
+        return Arrays.copyOf(stream, n);
+    }
+
     /** A row of so many bytes, all the same. */
     Probe same(int b, int n) {
         end(0);
@@ -128,7 +164,7 @@ final class Probe {
     /** What the library makes of a stream that has so many bytes in it; fewer when it is wrong. */
     static byte[] inflate(byte[] stream, int n) {
         Inflater inflater = new Inflater(true);
-        inflater.setInput(java.util.Arrays.copyOf(stream, stream.length + 1));
+        inflater.setInput(Arrays.copyOf(stream, stream.length + 1));
         byte[] bytes = new byte[n];
         int have = 0;
         try {
@@ -139,7 +175,7 @@ final class Probe {
             have = 0;
         }
         inflater.end();
-        return java.util.Arrays.copyOf(bytes, have);
+        return Arrays.copyOf(bytes, have);
     }
 
     /** All that can be asked about an object, in some 350 calls; it may be asked nothing behind it. */

@@ -1,5 +1,4 @@
 import java.util.Arrays;
-import java.util.zip.CRC32;
 
 /**
  * The boundary cases of 'Terms' (first and last sentence) and of promises 1 to 6 and 12 to 15: for each sentence that
@@ -53,12 +52,6 @@ public final class RowEdgeTest {
 
     private static Probe letters() {
         return new Probe().add('a', 'b', 'c', 'd', 'e');
-    }
-
-    private static long crc(byte[] bytes) {
-        CRC32 crc = new CRC32();
-        crc.update(bytes);
-        return crc.getValue();
     }
 
     // Terms: "A ROW of bytes, at most 65536, is built by feed(), end() and again(); what pack() and unpack() make is
@@ -247,9 +240,9 @@ public final class RowEdgeTest {
         far[0] = 'x';
         Arrays.fill(far, 1, 65535, (byte) 'a');
         far[65535] = 'x';
-        Due.due("4: again(65535, 1)", new Probe().same('a', 65535).alter(0, 'x').again(65535, 1).check(), crc(far));
+        Due.due("4: again(65535, 1)", new Probe().same('a', 65535).alter(0, 'x').again(65535, 1).check(), Due.crc(far));
         Arrays.fill(far, 1, 65536, (byte) 'x');
-        Due.due("4: again(1, 65535)", new Probe().add('x').again(1, 65535).check(), crc(far));
+        Due.due("4: again(1, 65535)", new Probe().add('x').again(1, 65535).check(), Due.crc(far));
     }
 
     // 4: "(None is so far back in an empty row, for n 0, too.)"
@@ -347,7 +340,7 @@ public final class RowEdgeTest {
         Arrays.fill(row, (byte) 'a');
         row[0] = 1;
         row[65535] = (byte) 254;
-        Due.due("6: the ends of a full row", full().alter(0, 1).alter(65535, 254).check(), crc(row));
+        Due.due("6: the ends of a full row", full().alter(0, 1).alter(65535, 254).check(), Due.crc(row));
         Probe packed = letters();
         int n = packed.pack();
         byte[] product = packed.product();
@@ -388,7 +381,7 @@ public final class RowEdgeTest {
     private static void back12From() {
         Probe p = letters();
         p.pack();
-        long packed = crc(p.product());
+        long packed = Due.crc(p.product());
         p.back();
         Due.due("12: check() is the product's", p.check(), packed);
         p.unpack(9);
@@ -413,7 +406,7 @@ public final class RowEdgeTest {
         Due.due("12: the product is apart from the row", p.product(), product);
         p.back();
         Due.due("12: it is the row again", p.length(), n);
-        Due.due("12: with its bytes", p.check(), crc(product));
+        Due.due("12: with its bytes", p.check(), Due.crc(product));
     }
 
     private static void back12More() {
@@ -435,7 +428,7 @@ public final class RowEdgeTest {
         }
         Due.due("12: unpack(65536) of 65536 bytes", p.unpack(65536), 65531);
         p.back();
-        Due.due("12: they are the noise", p.check(), crc(Arrays.copyOf(noise, 65531)));
+        Due.due("12: they are the noise", p.check(), Due.crc(Arrays.copyOf(noise, 65531)));
         p.end(65530);
         Due.due("12: pack() of 65530", p.pack(), 65535);
         dueThrow("12: back() of 65535", p, Probe::back, 0);
@@ -534,15 +527,15 @@ public final class RowEdgeTest {
     private static void check15Full() {
         byte[] row = new byte[65536];
         Arrays.fill(row, (byte) 'a');
-        Due.due("15: of a full row", full().check(), crc(row));
-        Due.due("15: of one less", full().end(65535).check(), crc(Arrays.copyOf(row, 65535)));
+        Due.due("15: of a full row", full().check(), Due.crc(row));
+        Due.due("15: of one less", full().end(65535).check(), Due.crc(Arrays.copyOf(row, 65535)));
         row[65535] = 'b';
-        Due.due("15: the last byte counts", full().alter(65535, 'b').check(), crc(row));
+        Due.due("15: the last byte counts", full().alter(65535, 'b').check(), Due.crc(row));
         row[65535] = 'a';
         row[0] = 'b';
-        Due.due("15: the first byte counts", full().alter(0, 'b').check(), crc(row));
+        Due.due("15: the first byte counts", full().alter(0, 'b').check(), Due.crc(row));
         Probe p = new Probe();
         byte[] noise = Noise.fill(p);
-        Due.due("15: of full noise", p.check(), crc(noise));
+        Due.due("15: of full noise", p.check(), Due.crc(noise));
     }
 }

@@ -1,5 +1,4 @@
-import java.util.Random;
-import java.util.zip.CRC32;
+import java.util.Arrays;
 
 /** feed, end, again, length, alter, back, size, byteAt and check (promises 2 to 6 and 12 to 15). */
 public final class RowTest {
@@ -17,36 +16,20 @@ public final class RowTest {
         Due.finish("RowTest");
     }
 
-    /** The bytes of the row, by way of a stored product or one that is unpacked again. */
-    private static byte[] rowOf(PackedBytes x) {
-        PackedBytes y = x;
-        y.pack();
-        byte[] stream = Due.product(y);
-        return new Reference.Unpacked(stream, 65536).product();
-    }
-
-    private static byte[] bytes(int... numbers) {
-        byte[] bytes = new byte[numbers.length];
-        for (int i = 0; i < bytes.length; i++) {
-            bytes[i] = (byte) numbers[i];
-        }
-        return bytes;
-    }
-
     private static void feed() {
-        PackedBytes x = new PackedBytes();
+        Probe x = new Probe();
         x.feed(0x01020304, 0xF5060708, 0x090A0B0C, 0x0D0E0F80, 0xFFFE7F00);
         Due.due("length() after feed", x.length(), 20);
-        Due.due("the row after feed", rowOf(x),
-            bytes(1, 2, 3, 4, 0xF5, 6, 7, 8, 9, 10, 11, 12, 13, 14, 15, 0x80, 0xFF, 0xFE, 0x7F, 0));
+        Due.due("the row after feed", x.row(),
+            Due.bytes(1, 2, 3, 4, 0xF5, 6, 7, 8, 9, 10, 11, 12, 13, 14, 15, 0x80, 0xFF, 0xFE, 0x7F, 0));
         x.feed(0, 0, 0, 0, 1);
         Due.due("length() after two", x.length(), 40);
-        Due.due("the last byte", rowOf(x)[39], 1);
-        Due.due("the byte before", rowOf(x)[38], 0);
+        Due.due("the last byte", x.row()[39], 1);
+        Due.due("the byte before", x.row()[38], 0);
     }
 
     private static void feedToTheEdge() {
-        PackedBytes x = new PackedBytes();
+        Probe x = new Probe();
         x.feed(7, 7, 7, 7, 7);
         x.again(1, 65496);
         Due.due("length()", x.length(), 65516);
@@ -62,7 +45,7 @@ public final class RowTest {
     }
 
     private static void end() {
-        PackedBytes x = new PackedBytes();
+        Probe x = new Probe();
         Due.dueThrow("end(0) of none", () -> x.end(0), 0);
         Due.dueThrow("end(1) of none", () -> x.end(1), Due.ARGUMENT);
         x.feed(0x61626364, 0x65666768, 0, 0, 0);
@@ -75,34 +58,34 @@ public final class RowTest {
         Due.due("length()", x.length(), 20);
         x.end(3);
         Due.due("length()", x.length(), 3);
-        Due.due("the row", rowOf(x), bytes(0x61, 0x62, 0x63));
+        Due.due("the row", x.row(), Due.bytes(0x61, 0x62, 0x63));
         Due.dueThrow("end(4) of 3", () -> x.end(4), Due.ARGUMENT);
         x.feed(0x01000000, 0, 0, 0, 0);
         x.end(4);
-        Due.due("the row goes on at its end", rowOf(x), bytes(0x61, 0x62, 0x63, 1));
+        Due.due("the row goes on at its end", x.row(), Due.bytes(0x61, 0x62, 0x63, 1));
         x.end(0);
         Due.due("length()", x.length(), 0);
     }
 
     private static void again() {
-        PackedBytes x = new PackedBytes();
+        Probe x = new Probe();
         x.feed(0x61626300, 0, 0, 0, 0);
         x.end(3);
         x.again(3, 4);
-        Due.due("again(3, 4)", rowOf(x), bytes(0x61, 0x62, 0x63, 0x61, 0x62, 0x63, 0x61));
+        Due.due("again(3, 4)", x.row(), Due.bytes(0x61, 0x62, 0x63, 0x61, 0x62, 0x63, 0x61));
         x.again(1, 2);
-        Due.due("again(1, 2)", rowOf(x), bytes(0x61, 0x62, 0x63, 0x61, 0x62, 0x63, 0x61, 0x61, 0x61));
+        Due.due("again(1, 2)", x.row(), Due.bytes(0x61, 0x62, 0x63, 0x61, 0x62, 0x63, 0x61, 0x61, 0x61));
         x.again(4, 2);
-        Due.due("again(4, 2)", rowOf(x),
-            bytes(0x61, 0x62, 0x63, 0x61, 0x62, 0x63, 0x61, 0x61, 0x61, 0x63, 0x61));
+        Due.due("again(4, 2)", x.row(),
+            Due.bytes(0x61, 0x62, 0x63, 0x61, 0x62, 0x63, 0x61, 0x61, 0x61, 0x63, 0x61));
         x.again(11, 1);
-        Due.due("again(11, 1)", rowOf(x)[11], 0x61);
+        Due.due("again(11, 1)", x.row()[11], 0x61);
         Due.dueThrow("again(12, 0)", () -> x.again(12, 0), 0);
         Due.due("length()", x.length(), 12);
     }
 
     private static void againThrows() {
-        PackedBytes x = new PackedBytes();
+        Probe x = new Probe();
         Due.dueThrow("again(1, 0) of none", () -> x.again(1, 0), Due.ARGUMENT);
         Due.dueThrow("again(0, 0) of none", () -> x.again(0, 0), Due.ARGUMENT);
         x.feed(1, 2, 3, 4, 5);
@@ -122,31 +105,31 @@ public final class RowTest {
     }
 
     private static void alter() {
-        PackedBytes x = new PackedBytes();
+        Probe x = new Probe();
         x.feed(0x61626364, 0, 0, 0, 0);
         x.end(4);
         x.alter(0, 0);
         x.alter(3, 255);
-        Due.due("the row", rowOf(x), bytes(0, 0x62, 0x63, 255));
+        Due.due("the row", x.row(), Due.bytes(0, 0x62, 0x63, 255));
         Due.dueThrow("alter(4, 0)", () -> x.alter(4, 0), Due.INDEX);
         Due.dueThrow("alter(-1, 0)", () -> x.alter(-1, 0), Due.INDEX);
         Due.dueThrow("alter(4, 256)", () -> x.alter(4, 256), Due.INDEX);
         Due.dueThrow("alter(MIN, -1)", () -> x.alter(Integer.MIN_VALUE, -1), Due.INDEX);
         Due.dueThrow("alter(0, 256)", () -> x.alter(0, 256), Due.ARGUMENT);
         Due.dueThrow("alter(0, -1)", () -> x.alter(0, -1), Due.ARGUMENT);
-        Due.due("the row after throws", rowOf(x), bytes(0, 0x62, 0x63, 255));
+        Due.due("the row after throws", x.row(), Due.bytes(0, 0x62, 0x63, 255));
         Due.due("length()", x.length(), 4);
     }
 
     private static void back() {
-        PackedBytes x = new PackedBytes();
+        Probe x = new Probe();
         x.feed(0x61616161, 0x61616161, 0x61616161, 0x61616161, 0x61616161);
         int packed = x.pack();
-        byte[] stream = Due.product(x);
+        byte[] stream = x.product();
         x.back();
         Due.due("length() is the product's", x.length(), packed);
         Due.due("size() stays", x.size(), packed);
-        Due.due("the row is the product", rowOf(x), stream);
+        Due.due("the row is the product", x.row(), stream);
         x.unpack(65536);
         Due.due("the row stays", x.length(), packed);
         Due.due("size()", x.size(), 20);
@@ -158,15 +141,13 @@ public final class RowTest {
         x.back();
         Due.due("back() again", x.length(), 20);
         x.pack();
-        Due.due("the row is as before", Due.product(x), stream);
+        Due.due("the row is as before", x.product(), stream);
     }
 
     /** 65536 bytes without matches are stored in 65546. */
     private static void backTooLong() {
-        byte[] noise = new byte[65536];
-        new Random(1).nextBytes(noise);
-        PackedBytes x = new PackedBytes();
-        Due.load(x, noise);
+        Probe x = new Probe();
+        byte[] noise = Noise.fill(x);
         Due.due("pack()", x.pack(), 65546);
         Due.due("told(0)", x.told(0), 0);
         Due.due("size()", x.size(), 65546);
@@ -177,9 +158,8 @@ public final class RowTest {
         Due.due("size() after a throw", x.size(), 65546);
         Due.due("byteAt(65545)", x.byteAt(65545), noise[65535] & 255);
         Due.dueThrow("byteAt(65546)", () -> x.byteAt(65546), Due.INDEX);
-        int[][] lengths = {{65531, 65536, 0}, {65532, 65537, Due.STATE}, {65535, 65540, Due.STATE}};
+        int[][] lengths = {{65535, 65540, Due.STATE}, {65532, 65537, Due.STATE}, {65531, 65536, 0}};
         for (int[] l : lengths) {
-            Due.load(x, noise);
             x.end(l[0]);
             Due.due("pack() of " + l[0], x.pack(), l[1]);
             Due.dueThrow("back() of " + l[1], x::back, l[2]);
@@ -188,7 +168,7 @@ public final class RowTest {
     }
 
     private static void byteAt() {
-        PackedBytes x = new PackedBytes();
+        Probe x = new Probe();
         x.feed(0xFF00FF80, 0, 0, 0, 0);
         x.end(4);
         x.pack();
@@ -204,20 +184,16 @@ public final class RowTest {
     }
 
     private static void check() {
-        PackedBytes x = new PackedBytes();
+        Probe x = new Probe();
         Due.due("check() of none", x.check(), 0);
         x.feed(0x31323334, 0x35363738, 0x39000000, 0, 0);
         x.end(9);
         Due.due("check() of 123456789", x.check(), 0xCBF43926L);
         Due.due("check() again", x.check(), 0xCBF43926L);
-        Random random = new Random(2);
-        for (int n : new int[] {1, 2, 3, 20, 255, 4096, 65535, 65536}) {
-            byte[] noise = new byte[n];
-            random.nextBytes(noise);
-            Due.load(x, noise);
-            CRC32 crc = new CRC32();
-            crc.update(noise);
-            Due.due("check() of " + n, x.check(), crc.getValue());
+        Probe y = new Probe();
+        byte[] noise = Noise.fill(y);
+        for (int n : new int[] {65536, 65535, 4096, 255, 20, 3, 2, 1}) {
+            Due.due("check() of " + n, y.end(n).check(), Due.crc(Arrays.copyOf(noise, n)));
         }
     }
 }

@@ -1,7 +1,6 @@
 import java.util.ArrayList;
 import java.util.Arrays;
 import java.util.List;
-import java.util.zip.CRC32;
 
 /**
  * The boundary cases of promises 10 and 11, with 'Terms', STREAMS and UNPACKING: for each sentence that names one, for
@@ -75,12 +74,6 @@ public final class UnpackEdgeTest {
         Due.dueThrow(call, () -> body.run(p), want);
     }
 
-    private static long crc(byte[] bytes) {
-        CRC32 crc = new CRC32();
-        crc.update(bytes);
-        return crc.getValue();
-    }
-
     private static Probe stream(String bits) {
         return new Probe().add(Due.bytes(Due.bits(bits)));
     }
@@ -111,7 +104,7 @@ public final class UnpackEdgeTest {
             want[i] = (byte) made.charAt(i);
         }
         p.back();
-        Due.due(bits + ": the product", p.check(), crc(want));
+        Due.due(bits + ": the product", p.check(), Due.crc(want));
     }
 
     private static void dueRight(String name, Probe p, int limit, int size, int taken) {

@@ -1,11 +1,17 @@
 import java.util.Arrays;
 import java.util.Random;
+import java.util.zip.DataFormatException;
+import java.util.zip.Deflater;
+import java.util.zip.Inflater;
 
 /** unpack and blame (promises 10 and 11): every fault and its place by hand, and streams against the reference. */
 public final class UnpackTest {
     /** 14 lengths of the C: 18 has one bit (0), 0 and 1 and 2 have 2, 3 and 3 bits: 10, 110, 111. */
     private static final String C18 = "0/3 0/3 1/3 2/3 0/3 0/3 0/3 0/3 0/3 0/3 0/3 0/3 0/3 0/3 0/3 3/3 0/3 3/3";
     private static final int[] faults = new int[10];
+    private static Probe x = new Probe();
+    /** The product that x has. */
+    private static byte[] product = {};
 
     public static void main(String[] args) {
         arguments();
@@ -23,6 +29,7 @@ public final class UnpackTest {
         everyCut();
         damaged();
         noise();
+        againstTheLibrary();
         for (int fault = 0; fault < faults.length; fault++) {
             Due.due("fault " + fault + " has come by chance", faults[fault] > 0 ? 1 : 0, 1);
         }
@@ -31,59 +38,63 @@ public final class UnpackTest {
 
     /** Loads the bits, unpacks them and tells of their fault and place; the reference must agree. */
     private static void wrong(String bits, int limit, int fault, int place) {
-        byte[] row = Due.bytes(Due.bits(bits));
-        PackedBytes x = new PackedBytes();
-        compare(bits, x, row, limit);
+        compare(bits, Due.bytes(Due.bits(bits)), limit);
         Due.due(bits + ": fault", x.blame(0), fault);
         Due.due(bits + ": place", x.blame(1), place);
         Due.due(bits + ": bytes taken", x.blame(2), 0);
     }
 
     private static void right(String bits, int limit, String made) {
-        PackedBytes x = new PackedBytes();
-        compare(bits, x, Due.bytes(Due.bits(bits)), limit);
+        compare(bits, Due.bytes(Due.bits(bits)), limit);
         byte[] want = new byte[made.length()];
         for (int i = 0; i < want.length; i++) {
             want[i] = (byte) made.charAt(i);
         }
-        Due.due(bits, Due.product(x), want);
+        Due.due(bits + ": product", x.check(), Due.crc(want));
         Due.due(bits + ": fault", x.blame(0), 0);
         Due.due(bits + ": place", x.blame(1), -1);
     }
 
-    private static void compare(String name, PackedBytes x, byte[] row, int limit) {
-        Due.load(x, row);
-        byte[] before = Due.product(x);
+    /** One object unpacks one stream after the other, as long as its calls last; in the end the product is the row. */
+    private static void compare(String name, byte[] row, int limit) {
+        if (x.left() < row.length / 20 + 20) {
+            x = new Probe();
+            product = new byte[0];
+        }
         Reference.Unpacked want = new Reference.Unpacked(row, limit);
         faults[want.fault]++;
-        int answer = x.unpack(limit);
-        Due.due(name + ": unpack(" + limit + ")", answer, want.fault == 0 ? want.made.size() : -1);
+        x.end(0).add(row);
+        Due.due(name + ": unpack(" + limit + ")", x.unpack(limit), want.fault == 0 ? want.made.size() : -1);
         Due.due(name + ": blame(0)", x.blame(0), want.fault);
         Due.due(name + ": blame(1)", x.blame(1), want.place);
         Due.due(name + ": blame(2)", x.blame(2), want.taken);
-        Due.due(name + ": product", Due.product(x), want.fault == 0 ? want.product() : before);
         Due.due(name + ": length() stays", x.length(), row.length);
+        Due.due(name + ": check() stays", x.check(), Due.crc(row));
+        product = want.fault == 0 ? want.product() : product;
+        Due.due(name + ": size()", x.size(), product.length);
+        x.back();
+        Due.due(name + ": product", x.check(), Due.crc(product));
     }
 
     private static void arguments() {
-        PackedBytes x = new PackedBytes();
+        Probe p = new Probe();
         for (int limit : new int[] {-1, 65537, Integer.MIN_VALUE, Integer.MAX_VALUE}) {
-            Due.dueThrow("unpack(" + limit + ")", () -> x.unpack(limit), Due.ARGUMENT);
+            Due.dueThrow("unpack(" + limit + ")", () -> p.unpack(limit), Due.ARGUMENT);
         }
-        Due.due("blame(1) after throws is as before", x.blame(1), 0);
-        Due.due("unpack(0) of none", x.unpack(0), PackedBytes.NONE);
-        Due.due("blame(0)", x.blame(0), 1);
-        Due.due("blame(1)", x.blame(1), 0);
+        Due.due("blame(1) after throws is as before", p.blame(1), 0);
+        Due.due("unpack(0) of none", p.unpack(0), PackedBytes.NONE);
+        Due.due("blame(0)", p.blame(0), 1);
+        Due.due("blame(1)", p.blame(1), 0);
         for (int what : new int[] {-1, 3, Integer.MIN_VALUE, Integer.MAX_VALUE}) {
-            Due.dueThrow("blame(" + what + ")", () -> x.blame(what), Due.ARGUMENT);
+            Due.dueThrow("blame(" + what + ")", () -> p.blame(what), Due.ARGUMENT);
         }
-        Due.dueThrow("unpack(-1)", () -> x.unpack(-1), Due.ARGUMENT);
-        Due.due("blame(0) after a throw", x.blame(0), 1);
-        x.feed(0x03000000, 0, 0, 0, 0);
-        Due.dueThrow("unpack(65536)", () -> x.unpack(65536), 0);
-        Due.due("blame(0)", x.blame(0), 0);
-        Due.due("blame(1)", x.blame(1), -1);
-        Due.due("blame(2): bytes behind the stream don't count", x.blame(2), 2);
+        Due.dueThrow("unpack(-1)", () -> p.unpack(-1), Due.ARGUMENT);
+        Due.due("blame(0) after a throw", p.blame(0), 1);
+        p.feed(0x03000000, 0, 0, 0, 0);
+        Due.dueThrow("unpack(65536)", () -> p.unpack(65536), 0);
+        Due.due("blame(0)", p.blame(0), 0);
+        Due.due("blame(1)", p.blame(1), -1);
+        Due.due("blame(2): bytes behind the stream don't count", p.blame(2), 2);
     }
 
     private static void blocks() {
@@ -255,7 +266,6 @@ public final class UnpackTest {
 
     /** Lengths by chance, most of them of a full code, and symbols by chance behind them. */
     private static void anyLengths() {
-        PackedBytes x = new PackedBytes();
         Random random = new Random(12);
         for (int k = 0; k < 6000; k++) {
             int[] symbols = someLengths(random, 257 + random.nextInt(30), 256);
@@ -270,7 +280,7 @@ public final class UnpackTest {
             for (int i = random.nextInt(400); i >= 0; i--) {
                 more.append((char) ('0' + random.nextInt(2)));
             }
-            compare("any lengths " + k, x, Due.bytes(Due.bits(own(symbols, distances, more.toString()))), 65536);
+            compare("any lengths " + k, Due.bytes(Due.bits(own(symbols, distances, more.toString()))), 65536);
         }
     }
 
@@ -323,36 +333,36 @@ public final class UnpackTest {
         wrong(text, 2, 9, 26);
         wrong(text, 1, 9, 11);
         wrong(text, 0, 9, 3);
-        PackedBytes x = new PackedBytes();
-        x.feed(0x61000000, 0, 0, 0, 0);
-        x.end(1);
-        x.again(1, 65535);
-        x.pack();
-        x.back();
-        Due.due("unpack(65536)", x.unpack(65536), 65536);
-        Due.due("unpack(65535)", x.unpack(65535), -1);
-        Due.due("blame(0)", x.blame(0), 9);
+        Probe p = new Probe();
+        p.feed(0x61000000, 0, 0, 0, 0);
+        p.end(1);
+        p.again(1, 65535);
+        p.pack();
+        p.back();
+        Due.due("unpack(65536)", p.unpack(65536), 65536);
+        Due.due("unpack(65535)", p.unpack(65535), -1);
+        Due.due("blame(0)", p.blame(0), 9);
     }
 
     private static void productStays() {
-        PackedBytes x = new PackedBytes();
-        x.feed(0x61626364, 0x65666768, 0, 0, 0);
-        x.end(8);
-        x.pack();
-        byte[] stream = Due.product(x);
-        x.back();
-        x.end(5);
-        Due.due("unpack(9) of a part", x.unpack(9), -1);
-        Due.due("the product stays", Due.product(x), stream);
-        x.back();
-        Due.due("unpack(9)", x.unpack(9), 8);
-        x.end(0);
-        Due.due("unpack(9) of none", x.unpack(9), -1);
-        Due.due("size() stays", x.size(), 8);
-        Due.due("byteAt(7)", x.byteAt(7), 0x68);
-        Due.dueThrow("unpack(-1)", () -> x.unpack(-1), Due.ARGUMENT);
-        Due.due("size() after a throw", x.size(), 8);
-        Due.due("blame(0) stays over pack()", x.pack() > 0 ? x.blame(0) : -1, 1);
+        Probe p = new Probe();
+        p.feed(0x61626364, 0x65666768, 0, 0, 0);
+        p.end(8);
+        p.pack();
+        byte[] stream = p.product();
+        p.back();
+        p.end(5);
+        Due.due("unpack(9) of a part", p.unpack(9), -1);
+        Due.due("the product stays", p.product(), stream);
+        p.back();
+        Due.due("unpack(9)", p.unpack(9), 8);
+        p.end(0);
+        Due.due("unpack(9) of none", p.unpack(9), -1);
+        Due.due("size() stays", p.size(), 8);
+        Due.due("byteAt(7)", p.byteAt(7), 0x68);
+        Due.dueThrow("unpack(-1)", () -> p.unpack(-1), Due.ARGUMENT);
+        Due.due("size() after a throw", p.size(), 8);
+        Due.due("blame(0) stays over pack()", p.pack() > 0 ? p.blame(0) : -1, 1);
     }
 
     private static byte[] someRow(Random random, int n) {
@@ -383,41 +393,112 @@ public final class UnpackTest {
     }
 
     private static void everyCut() {
-        PackedBytes x = new PackedBytes();
         Random random = new Random(7);
         for (int k = 0; k < 30; k++) {
             byte[] stream = someStream(random, 120);
             for (int n = 0; n <= stream.length; n++) {
-                compare("stream " + k + " cut to " + n, x, Arrays.copyOf(stream, n), 65536);
+                compare("stream " + k + " cut to " + n, Arrays.copyOf(stream, n), 65536);
             }
-            compare("stream " + k + " and more", x, Arrays.copyOf(stream, stream.length + 3), 65536);
+            compare("stream " + k + " and more", Arrays.copyOf(stream, stream.length + 3), 65536);
             for (int limit = 0; limit < 360; limit += 1 + random.nextInt(20)) {
-                compare("stream " + k + " limited", x, stream, limit);
+                compare("stream " + k + " limited", stream, limit);
             }
         }
     }
 
     private static void damaged() {
-        PackedBytes x = new PackedBytes();
         Random random = new Random(8);
         for (int k = 0; k < 20000; k++) {
             byte[] stream = someStream(random, 80);
-            int changes = 1 + random.nextInt(3);
-            for (int i = 0; i < changes; i++) {
-                int bit = random.nextInt(random.nextBoolean() ? stream.length * 8 : Math.min(stream.length * 8, 150));
-                stream[bit / 8] ^= (byte) (1 << bit % 8);
-            }
-            compare("damaged " + k, x, stream, random.nextInt(5) == 0 ? random.nextInt(100) : 65536);
+            damage(random, stream, 1 + random.nextInt(3));
+            compare("damaged " + k, stream, random.nextInt(5) == 0 ? random.nextInt(100) : 65536);
         }
     }
 
     private static void noise() {
-        PackedBytes x = new PackedBytes();
         Random random = new Random(9);
         for (int k = 0; k < 20000; k++) {
             byte[] stream = new byte[1 + random.nextInt(60)];
             random.nextBytes(stream);
-            compare("noise " + k, x, stream, random.nextInt(300));
+            compare("noise " + k, stream, random.nextInt(300));
         }
+    }
+
+    /** Streams of the library's own making, many of them damaged: what it takes, and no other, is taken. */
+    private static void againstTheLibrary() {
+        Random random = new Random(10);
+        Probe p = new Probe();
+        byte[] made = new byte[300000];
+        int[] verdicts = new int[2];
+        for (int k = 0; k < 20000; k++) {
+            byte[] stream = libraryStream(random, someRow(random, random.nextInt(600)));
+            damage(random, stream, random.nextInt(4));
+            if (random.nextInt(5) == 0) {
+                stream = Arrays.copyOf(stream, random.nextInt(stream.length + 4));
+            }
+            if (p.left() < stream.length / 20 + 20) {
+                p = new Probe();
+            }
+            Inflater library = new Inflater(true);
+            library.setInput(stream);
+            int n = inflate(library, made);
+            int due = n > 65536 ? -1 : n;
+            Due.due("library stream " + k + ": unpack(65536)", p.end(0).add(stream).unpack(65536), due);
+            Due.due("library stream " + k + ": blame(2)", p.blame(2), due < 0 ? 0 : library.getBytesRead());
+            Due.due("library stream " + k + ": it is wrong", p.blame(0) == 0 ? 0 : 1, due < 0 ? 1 : 0);
+            if (due >= 0) {
+                p.back();
+                Due.due("library stream " + k + ": product", p.check(), Due.crc(Arrays.copyOf(made, due)));
+            }
+            verdicts[due < 0 ? 0 : 1]++;
+            library.end();
+        }
+        Due.due("many are right and many are wrong", Math.min(verdicts[0], verdicts[1]) > 2000 ? 1 : 0, 1);
+    }
+
+    /** Of any level and strategy; often of several blocks, an empty stored one between them. */
+    private static byte[] libraryStream(Random random, byte[] row) {
+        Deflater deflater = new Deflater(random.nextInt(10), true);
+        deflater.setStrategy(random.nextInt(3));
+        byte[] stream = new byte[4000];
+        int part = random.nextInt(row.length + 1);
+        int n = 0;
+        if (random.nextInt(3) == 0) {
+            deflater.setInput(row, 0, part);
+            n = deflater.deflate(stream, 0, stream.length, Deflater.SYNC_FLUSH);
+            deflater.setInput(row, part, row.length - part);
+        } else {
+            deflater.setInput(row);
+        }
+        deflater.finish();
+        while (!deflater.finished()) {
+            n += deflater.deflate(stream, n, stream.length - n);
+        }
+        deflater.end();
+        return Arrays.copyOf(stream, n);
+    }
+
+    private static void damage(Random random, byte[] stream, int changes) {
+        for (int i = 0; i < changes; i++) {
+            int bit = random.nextInt(random.nextBoolean() ? stream.length * 8 : Math.min(stream.length * 8, 150));
+            stream[bit / 8] ^= (byte) (1 << bit % 8);
+        }
+    }
+
+    /** How many bytes the library unpacks; -1 when it says that the stream is wrong, or it has no end. */
+    private static int inflate(Inflater library, byte[] made) {
+        int n = 0;
+        try {
+            while (!library.finished()) {
+                int more = library.inflate(made, n, made.length - n);
+                n += more;
+                if (more == 0 && !library.finished()) {
+                    return -1;
+                }
+            }
+        } catch (DataFormatException e) {
+            return -1;
+        }
+        return n;
     }
 }
